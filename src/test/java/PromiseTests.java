@@ -265,6 +265,7 @@ public final class PromiseTests {
         due("tighten() without a timetable", broken.tighten(), 0);
         due("digest()", broken.digest(), before);
         due("tighten() of a new one", new RopeTimes().tighten(), 0);
+        due("tighten() of a full one", fullMill().tighten(), 3 * (4 * 149 + 4));
     }
 
     // ---- what there is
@@ -342,6 +343,10 @@ public final class PromiseTests {
         outside("count(-1)", x, () -> x.count(-1));
         outside("count(LOWEST)", x, () -> x.count(LOWEST));
         outside("count(HIGHEST)", x, () -> x.count(HIGHEST));
+        RopeTimes tight = mill(2);
+        tight.tie(0, 1, -5);
+        due("count(5) with the first rope tight", tight.count(5), 1);
+        due("count(5) of a full one without tight ropes", fullMill().count(5), 0);
     }
 
     private static void promise9Rounds() {
@@ -382,6 +387,13 @@ public final class PromiseTests {
         due("count(6): two ropes", x.count(6), 2);
         x.knot(7);
         due("count(6): one of them untied", x.count(6), 3);
+        RopeTimes full = fullMill();
+        full.cut(29, -99);
+        due("count(6) of a full one with a ring of 451", full.count(6), 0);
+        for (int rope = 0; rope < 29; rope++) {
+            full.cut(rope, rope % 12 == 5 ? -99 : 8);
+        }
+        due("count(6) of a full one", full.count(6), 12);
     }
 
     private static void promise10Holds() {
@@ -413,6 +425,10 @@ public final class PromiseTests {
         due("late(2, 9999)", x.late(2, 9999), 9999);
         due("late(0, 9999)", x.late(0, 9999), 9992);
         due("late(0, 0) without ropes", mill(1).late(0, 0), 0);
+        RopeTimes ahead = mill(12);
+        ahead.tie(0, 11, -5);
+        due("late(11, 10) by the first of 12 turns", ahead.late(11, 10), 5);
+        due("late(0, 10) of 12 turns", ahead.late(0, 10), 10);
         state("late(1, 6)", x, () -> x.late(1, 6));
         state("late(0, 0)", x, () -> x.late(0, 0));
         outside("late(4, 10)", x, () -> x.late(4, 10));
@@ -579,6 +595,10 @@ public final class PromiseTests {
         same.tie(1, 0, -3);
         due("advise(): the first of two that break the ring", same.advise(), 0);
         due("advise() of a new one", new RopeTimes().advise(), -1);
+        due("advise() of a full one", fullMill().advise(), -1);
+        RopeTimes full = fullMill();
+        full.cut(29, -99);
+        due("advise() of a full one, the last rope", full.advise(), 29);
     }
 
     private static void promise17Mean() {
